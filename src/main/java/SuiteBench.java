@@ -532,8 +532,7 @@ public final class SuiteBench {
         boolean seedTold;
 
         Plan() {
-            Arrays.fill(arcs, UNTOLD);
-            Arrays.fill(twists, UNTOLD);
+            clear();
         }
 
         void clear() {
@@ -2187,7 +2186,6 @@ public final class SuiteBench {
         private void gatherCrowd() {
             crowd = Math.min(count, CROWD);
             Arrays.fill(begun, NONE);
-            begun[0] = 0;
             for (int s = 0; s < crowd; s++) {
                 codes[s] = numbers[s] == THE_MACHINE ? NO_ARC : mutants.code(numbers[s]);
                 at[s] = 0;

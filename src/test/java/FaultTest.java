@@ -78,6 +78,7 @@ public final class FaultTest {
         fault("extra 3;", 2, 6);
         fault("extra 99999999999999999999999;", 2, 6);
         fault("seed 100000;", 2, 5);
+        fault("seed 999990;", 2, 5);
         fault("seed 4294967296;", 2, 5);
         fault("state a;input x;arc a x a 10;", 2, 26);
         fault("state a;input x;twist a x a 10;", 2, 28);

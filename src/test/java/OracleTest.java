@@ -41,7 +41,7 @@ public final class OracleTest {
         int inputs = random.nextInt(12) == 0 ? 0 : 1 + random.nextInt(3);
         int more = states == 0 ? 0 : random.nextInt(3);
         int extra = random.nextInt(3);
-        int seed = random.nextInt(100000);
+        int seed = random.nextInt(3) == 0 ? 0 : random.nextInt(100000);
         int top = random.nextInt(4) == 0 ? random.nextInt(10) : 1;
         int style = random.nextInt(5);
         StringBuilder text = new StringBuilder();
@@ -79,9 +79,19 @@ public final class OracleTest {
                 addArc(text, "twist", p, i, built);
             }
         }
-        text.append("extra ").append(extra).append(";seed ").append(seed).append(';');
+        if (extra > 0 || random.nextBoolean()) {
+            text.append("extra ").append(extra).append(';');
+        }
+        if (seed > 0) {
+            text.append("seed ").append(seed).append(';');
+        }
         told = text.toString();
-        bench = Kit.bench(told);
+        // Most benches are used again: nothing of the TEXT ahead may be left.
+        bench = bench == null || random.nextInt(4) == 0 ? new SuiteBench() : bench;
+        is("text()", Kit.text(bench, told), told.split(";").length);
+        is("count(9)", bench.count(9), 0);
+        is("count(10)", bench.count(10), 0);
+        is("back()", bench.back(), -1);
         oracle = new Oracle(states, inputs, more, extra, seed, meant, built);
     }
 

@@ -285,6 +285,15 @@ public final class PromiseTest {
         SuiteBench extra = Kit.bench(TWO + "extra 2;");
         is("extra: x, three more, x", extra.test(0, 0), Kit.word("00000"));
         is("extra: one TEST", extra.suite(0, 0), 1);
+        // xy alone splits all four; no other TEST begins with xy, which is behind the HEAD without INPUTS.
+        SuiteBench head = Kit.bench("state a;state b;state c;state d;input x;input y;arc a y b 0;arc b x c 0;arc c x d 0;"
+            + "arc c y c 1;arc d x d 1;arc d y d 2;");
+        String[] tests = {"01", "001", "1101", "10001", "10101", "100001", "100101"};
+        for (int k = 0; k < tests.length; k++) {
+            is("test(0, " + k + ") behind the first HEAD", head.test(0, k), Kit.word(tests[k]));
+        }
+        is("no more", head.test(0, tests.length), -2);
+        is("INPUTS in sum", head.suite(0, 1), 31);
         SuiteBench bare = Kit.bench(BARE);
         is("no INPUTS: a TEST without INPUTS", bare.suite(0, 0), 1);
         is("no INPUTS: test(0, 0)", bare.test(0, 0), 0);
@@ -583,6 +592,8 @@ public final class PromiseTest {
         }
         is("chance(-1, 3)", bench.chance(-1, 3), withSecondInput(5, 3));
         is("chance(-2, 3)", bench.chance(-2, 3), -1);
+        Kit.text(bench, "state a;input x;input y;input z;twist a y a 1;");
+        is("no seed is told: 0", bench.chance(-1, 1), withSecondInput(0, 1));
         is("chance(0, 0)", bench.chance(0, 0), -1);
         is("chance(0, 16)", bench.chance(0, 16), -1);
         is("no STATES", Kit.bench("input x;").chance(0, 1), -1);
