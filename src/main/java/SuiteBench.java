@@ -324,7 +324,7 @@ public final class SuiteBench {
 
     public int suspects(int what) {
         if (what == 0) {
-            return suspects.mutantsAmong();
+            return suspects.all() - suspects.machineAmong();
         }
         return what == 1 ? suspects.machineAmong() : NONE;
     }
@@ -638,39 +638,26 @@ public final class SuiteBench {
                 at++;
             }
             place = at;
-            if (at >= end) {
-                kind = END;
-            } else if (tape[at] >= 'a' && tape[at] <= 'z') {
-                takeWord();
-            } else if (tape[at] >= '0' && tape[at] <= '9') {
-                takeNumber();
-            } else {
-                kind = tape[at] == ';' ? CLOSE : BAD;
-                at++;
-            }
-        }
-
-        private void takeWord() {
             value = 0;
+            kind = at < end ? BAD : END;
             int shift = 25;
             while (at < end && tape[at] >= 'a' && tape[at] <= 'z') {
-                if (shift >= 0) {
-                    value |= tape[at] - 'a' + 1 << shift;
-                }
+                value |= shift >= 0 ? tape[at] - 'a' + 1 << shift : 0;
                 shift -= 5;
+                kind = shift < -5 ? BAD : WORD;
                 at++;
             }
-            kind = shift < -5 ? BAD : WORD;
-        }
-
-        private void takeNumber() {
-            kind = NUMBER;
-            value = 0;
+            if (at > place) {
+                return;
+            }
             while (at < end && tape[at] >= '0' && tape[at] <= '9') {
                 // Beyond the greatest bound it grows no more: it is too much already.
-                if (value <= MOST_SEED) {
-                    value = value * 10 + tape[at] - '0';
-                }
+                value = value <= MOST_SEED ? value * 10 + tape[at] - '0' : value;
+                kind = NUMBER;
+                at++;
+            }
+            if (at == place && at < end) {
+                kind = tape[at] == ';' ? CLOSE : BAD;
                 at++;
             }
         }
@@ -1614,8 +1601,11 @@ public final class SuiteBench {
         }
 
         private void grow(int suite, int n) {
-            grown = 0;
-            addLeaf(0);
+            for (int i = 0; i < MOST_INPUTS; i++) {
+                down[i] = 0;
+            }
+            states[0] = 0;
+            grown = 1;
             growHeads(n);
             for (int k = 0; k < headCount; k++) {
                 if (suite == 0) {
@@ -1671,17 +1661,13 @@ public final class SuiteBench {
             int link = node * MOST_INPUTS + input;
             if (down[link] == 0 && grown < MOST_NODES) {
                 down[link] = grown;
-                addLeaf(meant.to[states[node] * MOST_INPUTS + input]);
+                states[grown] = meant.to[states[node] * MOST_INPUTS + input];
+                for (int i = 0; i < MOST_INPUTS; i++) {
+                    down[grown * MOST_INPUTS + i] = 0;
+                }
+                grown++;
             }
             return down[link];
-        }
-
-        private void addLeaf(int state) {
-            states[grown] = state;
-            for (int i = 0; i < MOST_INPUTS; i++) {
-                down[grown * MOST_INPUTS + i] = 0;
-            }
-            grown++;
         }
 
         /** Level by level, INPUT by INPUT: that is the order of WORDS. Where nothing comes behind, a TEST ends. */
@@ -2144,10 +2130,6 @@ public final class SuiteBench {
         int machineAmong() {
             learn();
             return count > 0 && numbers[count - 1] == THE_MACHINE ? 1 : 0;
-        }
-
-        int mutantsAmong() {
-            return all() - machineAmong();
         }
 
         int all() {
