@@ -59,6 +59,33 @@ final class Kit {
         return bench;
     }
 
+    /**
+     * A bench by rows, one for each INPUT: of each STATE the next one, and behind a dash the OUTPUTS. STATES are a, b ..,
+     * INPUTS x, y, z; the tail stands behind them.
+     */
+    static SuiteBench machine(String tail, String... rows) {
+        int states = rows[0].indexOf('-');
+        StringBuilder text = new StringBuilder();
+        for (int s = 0; s < states; s++) {
+            text.append("state ").append((char) ('a' + s)).append(';');
+        }
+        for (int i = 0; i < rows.length; i++) {
+            text.append("input ").append((char) ('x' + i)).append(';');
+        }
+        for (int i = 0; i < rows.length; i++) {
+            for (int s = 0; s < states; s++) {
+                char next = rows[i].charAt(s);
+                char output = rows[i].charAt(states + 1 + s);
+                // What isn't told leads to itself with OUTPUT 0.
+                if (next != 'a' + s || output != '0') {
+                    text.append("arc ").append((char) ('a' + s)).append(' ').append((char) ('x' + i)).append(' ');
+                    text.append(next).append(' ').append(output).append(';');
+                }
+            }
+        }
+        return bench(text.append(tail).toString());
+    }
+
     /** A name as named() wants it. */
     static int letters(String name) {
         int letters = 0;

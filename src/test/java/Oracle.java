@@ -82,6 +82,26 @@ final class Oracle {
         byLength.add(List.of(""));
     }
 
+    /** The Oracle of a bench as it is: its ARCS are those that it tells, the seed is 0. */
+    static Oracle of(SuiteBench bench) {
+        int states = bench.count(0);
+        int inputs = bench.count(1);
+        int more = bench.count(2) - states;
+        Box meant = new Box(states, inputs);
+        Box built = new Box(states + more, inputs);
+        for (int p = 0; p < states + more; p++) {
+            for (int i = 0; i < inputs; i++) {
+                built.to[p][i] = bench.built(p, i, 0);
+                built.out[p][i] = bench.built(p, i, 1);
+                if (p < states) {
+                    meant.to[p][i] = bench.arc(p, i, 0);
+                    meant.out[p][i] = bench.arc(p, i, 1);
+                }
+            }
+        }
+        return new Oracle(states, inputs, more, bench.count(3), 0, meant, built);
+    }
+
     List<String> words(int length) {
         while (byLength.size() <= length) {
             List<String> longer = new ArrayList<>();
@@ -198,14 +218,15 @@ final class Oracle {
 
     String sign(int state) {
         if (!signMemo.containsKey(state)) {
-            signMemo.put(state, findSign(state));
+            signMemo.put(state, sign(state, 8));
         }
         return signMemo.get(state);
     }
 
-    private String findSign(int state) {
+    /** WITHIN so many INPUTS. */
+    String sign(int state, int within) {
         List<Integer> reached = reached();
-        for (int length = 0; length <= 8; length++) {
+        for (int length = 0; length <= within; length++) {
             for (String word : words(length)) {
                 boolean alone = true;
                 for (int s : reached) {
@@ -493,13 +514,17 @@ final class Oracle {
     }
 
     int tree(int set, int what) {
+        return tree(set, what, 8);
+    }
+
+    int tree(int set, int what, int within) {
         List<int[]> all = new ArrayList<>();
         for (int s = 0; s < states; s++) {
             if ((set >> s & 1) == 1) {
                 all.add(new int[] {s, s});
             }
         }
-        for (int depth = 1; depth <= 8; depth++) {
+        for (int depth = 1; depth <= within; depth++) {
             for (int i = 0; i < inputs; i++) {
                 if (canTellBy(all, i, depth)) {
                     return what == 0 ? depth : i;
@@ -510,8 +535,12 @@ final class Oracle {
     }
 
     String word(int what) {
+        return word(what, 8);
+    }
+
+    String word(int what, int within) {
         List<Integer> reached = reached();
-        for (int length = 0; length <= 8; length++) {
+        for (int length = 0; length <= within; length++) {
             for (String word : words(length)) {
                 boolean holds = true;
                 for (int one : reached) {

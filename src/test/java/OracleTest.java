@@ -25,7 +25,33 @@ public final class OracleTest {
             test.make();
             test.tryAll();
         }
+        test.tryFull();
         test.kit.end();
+    }
+
+    /** Benches with the most of something, searched for: by chance alone such ones are seldom met. */
+    private void tryFull() {
+        String more = "more g;more h;extra 2;";
+        // TESTS of SUITE 0 and 1, their INPUTS in sum; the longest TOUR and CHECK; TESTS that are COVERED.
+        tryGiven(more, "afdffe-111111", "aacdab-000100", "baeacf-111111");
+        tryGiven(more, "dbbefc-000000", "bbbbfb-111111", "bbbbfb-001000");
+        tryGiven(more, "fdaecf-000000", "ffafcb-100000", "ffafcf-100000");
+        tryGiven(more, "acaaaa-101001", "dafeba-000100", "aaaaac-101001");
+        tryGiven(more, "dfabce-111111", "cccccc-000000", "ccccda-000011");
+        tryGiven(more, "fffebf-000000", "cfdfff-000000", "ffffff-010000");
+        tryGiven(more, "eefcec-111111", "edaede-010000", "eeaadb-101111");
+        // FIRST UNLIKE of 13 INPUTS.
+        tryGiven("more g;more h;twist a x b 1;twist b x h 1;twist c x g 1;twist d x e 1;twist e x f 0;twist f x c 1;"
+            + "twist g x a 1;twist h x d 1;", "ebdbfc-111011");
+        // The most MUTANTS.
+        tryGiven(more, "bcdefa-999999", "acbedf-000000", "fedcba-123456");
+    }
+
+    private void tryGiven(String tail, String... rows) {
+        told = String.join(" ", rows) + " " + tail;
+        bench = Kit.machine(tail, rows);
+        oracle = Oracle.of(bench);
+        tryAll();
     }
 
     private void is(String call, long got, long due) {
