@@ -1,171 +1,128 @@
+import java.io.IOException;
 import java.lang.reflect.Constructor;
 import java.lang.reflect.Field;
 import java.lang.reflect.Method;
 import java.lang.reflect.Modifier;
-import java.io.IOException;
 import java.nio.charset.StandardCharsets;
 import java.nio.file.Files;
 import java.nio.file.Path;
-import java.util.HashSet;
-import java.util.List;
 import java.util.Set;
 import java.util.TreeSet;
 import java.util.regex.Matcher;
 import java.util.regex.Pattern;
 
-/** The face is the document's and no more; the source keeps to what LANGUAGE.md rules out in so many words. */
+/** The face is the one that the document writes, and no more; each of its calls has a promise. */
 public final class FaceTest {
-    private static final String FACE = """
-        int feed(int, int, int, int, int)
-        int text(int)
-        int fault(int)
-        int named(int)
-        int arc(int, int, int)
-        int built(int, int, int)
-        long answer(int, int)
-        int leads(int, int)
-        long answerBuilt(int)
-        int access(int)
-        int kind(int)
-        int separator(int, int)
-        int splitter(int)
-        int mark(int, int)
-        int sign(int)
-        int suite(int, int)
-        int test(int, int)
-        int way(int, int)
-        int verdict(int, int)
-        boolean isEqual()
-        int witness()
-        int enough(int)
-        int mutants(int, int)
-        int mutant(int, int)
-        int parts(int, int)
-        int small(int, int, int)
-        int tree(int, int)
-        int word(int)
-        int covered(int)
-        long ask(int)
-        int forget()
-        int suspects(int)
-        int suspect(int)
-        int next()
-        int chance(int, int)
-        boolean twist(int, int, int, int)
-        boolean mend(int, int)
-        boolean mutate(int)
-        int undo()
-        int keep()
-        int back()
-        int count(int)
-        """;
-    private static final List<String> RULED_OUT = List.of("->", "::", "catch", "finally", "synchronized", "assert",
-        "Exact(", "Thread", "Random", "nanoTime", "currentTimeMillis", "package ", "HashMap", "double", "float",
-        "try {", "hashCode", "toString", "getMessage", "while (true)", "for (;;)");
+    private static final Pattern BLOCK = Pattern.compile("(?s)```java\\n(.*?)```");
+    private static final Pattern CALL = Pattern.compile("    public (\\w+ \\w+)\\(([^)]*)\\)( throws [\\w, ]+)?;");
+    private static final Pattern PROMISE = Pattern.compile("## Promise (\\d+): (\\w+|A new object)\\n\\n`([^`]*)`");
+    private static final int CALLS = 42;
 
     private final Kit kit = new Kit("FaceTest");
 
     public static void main(String[] args) throws IOException {
         FaceTest test = new FaceTest();
-        test.tryFace();
-        test.trySource(Files.readString(Path.of("src/main/java/SuiteBench.java"), StandardCharsets.ISO_8859_1));
+        String document = Files.readString(Path.of("../shared/DOC.md"), StandardCharsets.UTF_8);
+        test.tryCalls(document);
+        test.tryPromises(document);
+        test.tryFields();
+        test.tryMaking();
+        test.tryClasses();
         test.kit.end();
     }
 
-    private void tryFace() {
-        Class<?> face = SuiteBench.class;
-        kit.is("public and final", Modifier.isPublic(face.getModifiers()) && Modifier.isFinal(face.getModifiers()), true);
-        Set<String> due = new TreeSet<>(FACE.lines().toList());
+    private static Set<String> face() {
         Set<String> found = new TreeSet<>();
-        Set<String> hidden = new HashSet<>();
-        Set<String> names = new HashSet<>();
-        for (Method method : face.getDeclaredMethods()) {
-            if (Modifier.isPrivate(method.getModifiers()) || method.isSynthetic()) {
-                hidden.add(method.getName());
-            } else {
+        for (Method method : SuiteBench.class.getDeclaredMethods()) {
+            if (!Modifier.isPrivate(method.getModifiers()) && !method.isSynthetic()) {
                 found.add(line(method));
-                names.add(method.getName());
             }
         }
+        return found;
+    }
+
+    private static String line(Method method) {
+        StringBuilder line = new StringBuilder();
+        line.append(Modifier.toString(method.getModifiers())).append(' ').append(method.getReturnType().getName());
+        line.append(' ').append(method.getName()).append('(');
+        for (int k = 0; k < method.getParameterCount(); k++) {
+            line.append(k > 0 ? ", " : "").append(method.getParameterTypes()[k].getName());
+        }
+        line.append(')');
+        for (int k = 0; k < method.getExceptionTypes().length; k++) {
+            line.append(k > 0 ? ", " : " throws ").append(method.getExceptionTypes()[k].getSimpleName());
+        }
+        return line.toString();
+    }
+
+    private void tryCalls(String document) {
+        Matcher block = BLOCK.matcher(document);
+        kit.is("the document writes the face", block.find(), true);
+        Set<String> due = new TreeSet<>();
+        for (String row : block.group(1).split("\n")) {
+            Matcher call = CALL.matcher(row);
+            if (call.matches()) {
+                String types = call.group(2).replaceAll("(\\w+) \\w+", "$1");
+                due.add("public " + call.group(1) + "(" + types + ")" + (call.group(3) == null ? "" : call.group(3)));
+            }
+        }
+        kit.is("calls of the document", due.size(), CALLS);
+        Set<String> found = face();
         for (String line : due) {
             kit.is("the face has " + line, found.contains(line), true);
         }
         for (String line : found) {
             kit.is("the document has " + line, due.contains(line), true);
         }
-        for (String name : hidden) {
-            kit.is("a private method may be called " + name, names.contains(name), false);
+    }
+
+    /** What stands below a promise is what stands in the face. */
+    private void tryPromises(String document) {
+        Set<String> names = new TreeSet<>();
+        for (String line : face()) {
+            names.add(line.replaceAll(".* (\\w+)\\(.*", "$1"));
         }
-        for (Field field : face.getDeclaredFields()) {
+        Matcher promise = PROMISE.matcher(document);
+        int number = 0;
+        while (promise.find()) {
+            number++;
+            kit.is("the number of promise " + number, Integer.parseInt(promise.group(1)), number);
+            if (number > 1) {
+                kit.is("promise " + number + " is of a call", names.remove(promise.group(2)), true);
+                kit.is("it stands in the face", document.contains("    public " + promise.group(3) + ";"), true);
+            }
+        }
+        kit.is("promises", number, CALLS + 1);
+        kit.is("calls without a promise: " + names, names.isEmpty(), true);
+    }
+
+    private void tryFields() {
+        for (Field field : SuiteBench.class.getDeclaredFields()) {
             boolean open = !Modifier.isPrivate(field.getModifiers());
             kit.is("open field " + field.getName(), open, field.getName().equals("NONE"));
-        }
-        kit.is("constructors", face.getDeclaredConstructors().length, 1);
-        for (Constructor<?> made : face.getDeclaredConstructors()) {
-            kit.is("public constructor", Modifier.isPublic(made.getModifiers()) && made.getParameterCount() == 0, true);
+            if (open) {
+                kit.is("it is", Modifier.toString(field.getModifiers()).equals("public static final"), true);
+            }
         }
         kit.is("NONE", SuiteBench.NONE, -1);
-        kit.is("classes", face.getDeclaredClasses().length <= 12, true);
-        for (Class<?> inside : face.getDeclaredClasses()) {
+    }
+
+    private void tryMaking() {
+        int modifiers = SuiteBench.class.getModifiers();
+        kit.is("public and final", Modifier.isPublic(modifiers) && Modifier.isFinal(modifiers), true);
+        kit.is("of Object alone", SuiteBench.class.getSuperclass() == Object.class, true);
+        kit.is("of no interface", SuiteBench.class.getInterfaces().length, 0);
+        kit.is("constructors", SuiteBench.class.getDeclaredConstructors().length, 1);
+        for (Constructor<?> made : SuiteBench.class.getDeclaredConstructors()) {
+            kit.is("public constructor", Modifier.isPublic(made.getModifiers()) && made.getParameterCount() == 0, true);
+        }
+    }
+
+    private void tryClasses() {
+        for (Class<?> inside : SuiteBench.class.getDeclaredClasses()) {
             kit.is("static " + inside.getName(), Modifier.isStatic(inside.getModifiers()), true);
             kit.is("hidden " + inside.getName(), Modifier.isPublic(inside.getModifiers()), false);
+            kit.is("hidden " + inside.getName(), Modifier.isProtected(inside.getModifiers()), false);
         }
-    }
-
-    private static String line(Method method) {
-        StringBuilder line = new StringBuilder();
-        line.append(method.getReturnType().getName()).append(' ').append(method.getName()).append('(');
-        for (int k = 0; k < method.getParameterCount(); k++) {
-            line.append(k > 0 ? ", " : "").append(method.getParameterTypes()[k].getName());
-        }
-        return line.append(')').toString();
-    }
-
-    private void trySource(String source) {
-        for (int k = 0; k < source.length(); k++) {
-            if (source.charAt(k) > 126) {
-                kit.is("sign at " + k, source.charAt(k), 0);
-            }
-        }
-        String code = source.replaceAll("(?s)/\\*.*?\\*/", "").replaceAll("//[^\\n]*", "");
-        for (String word : RULED_OUT) {
-            kit.is("the source has " + word, code.contains(word), false);
-        }
-        Matcher imports = Pattern.compile("import ([\\w.]+);").matcher(code);
-        while (imports.find()) {
-            String name = imports.group(1);
-            kit.is("import " + name, name.equals("java.util.Arrays") || name.equals("java.util.NoSuchElementException"), true);
-        }
-        Matcher thrown = Pattern.compile("throw new (\\w+)").matcher(code);
-        int throwing = 0;
-        while (thrown.find()) {
-            throwing++;
-        }
-        kit.is("throw statements: those of arc", throwing, 2);
-        Matcher calls = Pattern.compile("(Arrays|Math|Integer|System|Long)\\.(\\w+)").matcher(code);
-        Set<String> allowed = Set.of("Arrays.fill", "Math.min", "Math.max", "Integer.bitCount", "System.arraycopy");
-        while (calls.find()) {
-            String call = calls.group();
-            kit.is("call of " + call, allowed.contains(call) || source.contains("import java.util." + call), true);
-        }
-        tryLengths(source);
-    }
-
-    /** Methods stay short. */
-    private void tryLengths(String source) {
-        int begun = -1;
-        String[] lines = source.split("\n");
-        for (int k = 0; k < lines.length; k++) {
-            boolean opens = lines[k].matches(" {4}(?: {4})?(?:\\w[\\w<>\\[\\], ]*)\\(.*\\).*\\{");
-            begun = opens ? k : begun;
-            if (begun >= 0 && lines[k].matches(" {4}(?: {4})?\\}") && indent(lines[k]) == indent(lines[begun])) {
-                kit.is("a method of " + (k - begun + 1) + " lines at " + (begun + 1), k - begun + 1 <= 60, true);
-                begun = -1;
-            }
-        }
-    }
-
-    private static int indent(String line) {
-        return line.length() - line.stripLeading().length();
     }
 }
