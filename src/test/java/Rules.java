@@ -29,6 +29,7 @@ import com.sun.source.tree.UnaryTree;
 import com.sun.source.tree.VariableTree;
 import com.sun.source.tree.WhileLoopTree;
 import com.sun.source.util.JavacTask;
+import com.sun.source.util.SourcePositions;
 import com.sun.source.util.TreePath;
 import com.sun.source.util.TreePathScanner;
 import com.sun.source.util.TreeScanner;
@@ -211,7 +212,6 @@ final class Rules extends TreePathScanner<Void, Void> {
         Set<Modifier> flags = tree.getModifiers().getFlags();
         boolean outer = isOuter(element.getEnclosingElement());
         boolean made = element.getKind() == ElementKind.CONSTRUCTOR;
-        boolean written = trees.getSourcePositions().getEndPosition(unit, tree) > trees.getSourcePositions().getStartPosition(unit, tree.getBody());
         if (outer && !flags.contains(Modifier.PUBLIC) && !flags.contains(Modifier.PRIVATE)) {
             wrong(1, tree, tree.getName() + " is neither public nor private");
         }
@@ -227,10 +227,16 @@ final class Rules extends TreePathScanner<Void, Void> {
         if (tree.getParameters().size() > MOST_PARAMETERS) {
             wrong(11, tree, tree.getParameters().size() + " parameters");
         }
-        if (written && lines(tree) > MOST_LINES) {
+        if (isWritten(tree) && lines(tree) > MOST_LINES) {
             wrong(11, tree, tree.getName() + " has " + lines(tree) + " lines");
         }
         return super.visitMethod(tree, none);
+    }
+
+    /** A constructor that javac adds by itself has no end. */
+    private boolean isWritten(MethodTree tree) {
+        SourcePositions places = trees.getSourcePositions();
+        return tree.getBody() != null && places.getEndPosition(unit, tree) > places.getStartPosition(unit, tree.getBody());
     }
 
     private long lines(Tree tree) {
